@@ -1166,6 +1166,11 @@ public final class DeepBathing {
             int wits = life.beach.wits[bather];
             int tide = life.tideAt(hour);
             life.settle(f.stages[stage], bather, wits, hour, tide);
+            if (stage == hours - 1) {
+                // No fewer HOURS were enough, so that only a DUCKING in the last one can be.
+                f.path[stage] = idea;
+                return life.isReady(idea);
+            }
             int ready = life.readyBits();
             for (int choice = NONE; choice < life.beach.ideas; choice++) {
                 if (choice != NONE && (ready >> choice & 1) == 0) {

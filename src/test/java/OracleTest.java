@@ -11,8 +11,8 @@ public final class OracleTest {
     private final Oracle o = new Oracle();
     private final List<String> calls = new ArrayList<>();
     private static final int[] faultsSeen = new int[6];
-    private static final int[] answers = new int[40];
     private static int wrong;
+    private int lastOdd;
 
     private OracleTest(long seed) { random = new Random(seed); }
 
@@ -186,28 +186,33 @@ public final class OracleTest {
         put(t);
         same("on()", x.on(), o.on());
     }
+    /** Now and then a number far away from all that can be. */
+    private int odd(int usual) {
+        int[] far = {Integer.MIN_VALUE, Integer.MAX_VALUE, Integer.MIN_VALUE + 1, -256, 256, 1 << 30, 999, 65536};
+        lastOdd = pick(40) == 0 ? far[pick(far.length)] : usual;
+        return lastOdd;
+    }
     private void call(boolean dear) {
-        int b = pick(8) == 0 ? pick(8) - 1 : pick(Math.max(1, o.told.bathers.size()));
-        int i = pick(8) == 0 ? pick(10) - 1 : pick(Math.max(1, o.told.ideas.size()));
-        int k = pick(7) - 1;
+        int b = odd(pick(8) == 0 ? pick(8) - 1 : pick(Math.max(1, o.told.bathers.size())));
+        int i = odd(pick(8) == 0 ? pick(10) - 1 : pick(Math.max(1, o.told.ideas.size())));
+        int k = odd(pick(7) - 1);
         int which = pick(34);
         int n;
-        answers[which]++;
         switch (which) {
-            case 0: same("has(" + (n = pick(13) - 1) + ")", x.has(n), o.has(n)); return;
-            case 1: same("letter", x.letter(k - 1, b, i), o.letter(k - 1, b, i)); return;
+            case 0: same("has(" + (n = odd(pick(13) - 1)) + ")", x.has(n), o.has(n)); return;
+            case 1: same("letter", x.letter(odd(pick(4) - 1), b, i), o.letter(lastOdd, b, i)); return;
             case 2: same("idea(" + i + ", " + k + ")", x.idea(i, k), o.idea(i, k)); return;
             case 3: same("bather(" + b + ", " + k + ")", x.bather(b, k), o.bather(b, k)); return;
             case 4: same("knows(" + b + ", " + i + ")", x.knows(b, i), o.knows(b, i)); return;
             case 5: same("keeps(" + b + ", " + i + ")", x.keeps(b, i), o.keeps(b, i)); return;
-            case 6: same("plan", x.plan(n = pick(18) - 1, k), o.plan(n, k)); return;
-            case 7: same("kept", x.kept(n = pick(42) - 1, k), o.kept(n, k)); return;
-            case 8: same("tide", x.tide(n = pick(64) - 1), o.tide(n)); return;
-            case 9: same("later(" + b + ", " + i + ", " + (n = pick(64) - 1) + ")", x.later(b, i, n), o.later(b, i, n)); return;
+            case 6: same("plan", x.plan(n = odd(pick(18) - 1), k), o.plan(n, k)); return;
+            case 7: same("kept", x.kept(n = odd(pick(42) - 1), k), o.kept(n, k)); return;
+            case 8: same("tide", x.tide(n = odd(pick(64) - 1)), o.tide(n)); return;
+            case 9: same("later(" + b + ", " + i + ", " + (n = odd(pick(64) - 1)) + ")", x.later(b, i, n), o.later(b, i, n)); return;
             case 10: same("learns(" + b + ", " + i + ")", x.learns(b, i), o.learns(b, i)); return;
             case 11: same("lasts(" + b + ", " + i + ")", x.lasts(b, i), o.lasts(b, i)); return;
             case 12: if (dear) same("course(" + b + ", " + i + ", " + k + ")", x.course(b, i, k), o.course(b, i, k)); return;
-            case 13: if (dear) same("change(" + (n = pick(33) - 1) + ", " + k + ")", x.change(n, k), o.change(n, k)); return;
+            case 13: if (dear) same("change(" + (n = odd(pick(33) - 1)) + ", " + k + ")", x.change(n, k), o.change(n, k)); return;
             case 14: if (dear) same("match(" + k + ")", x.match(k), o.match(k)); return;
             case 15: same("odds(" + b + ", " + i + ")", x.odds(b, i), o.odds(b, i)); return;
             case 16: discover(); return;
@@ -216,10 +221,10 @@ public final class OracleTest {
             case 19: case 20: same("duck(" + b + ", " + i + ")", x.duck(b, i), o.duck(b, i)); return;
             case 21: same("forget(" + b + ", " + i + ")", x.forget(b, i), o.forget(b, i)); return;
             case 22: same("send(" + k + ", " + b + ", " + i + ")", x.send(k, b, i), o.send(k, b, i)); return;
-            case 23: case 24: n = pick(5) == 0 ? pick(103) - 1 : pick(6); same("hours(" + n + ")", x.hours(n), o.hours(n)); return;
-            case 25: case 26: n = pick(5) == 0 ? pick(103) - 1 : pick(6); same("chance(" + n + ")", x.chance(n), o.chance(n)); return;
+            case 23: case 24: n = odd(pick(5) == 0 ? pick(103) - 1 : pick(6)); same("hours(" + n + ")", x.hours(n), o.hours(n)); return;
+            case 25: case 26: n = odd(pick(5) == 0 ? pick(103) - 1 : pick(6)); same("chance(" + n + ")", x.chance(n), o.chance(n)); return;
             case 27: same("undo()", x.undo(), o.undo()); return;
-            case 28: n = pick(4) == 0 ? -pick(9) : random.nextInt() & 0x7fffffff; same("seed(" + n + ")", x.seed(n), o.seed(n)); return;
+            case 28: n = pick(4) == 0 ? odd(-pick(9)) : random.nextInt() & 0x7fffffff; same("seed(" + n + ")", x.seed(n), o.seed(n)); return;
             case 29: ask(); return;
             case 30:
                 same("image()", x.image(), o.image());
@@ -227,11 +232,9 @@ public final class OracleTest {
                 return;
             case 31: if (pick(4) == 0) on(); return;
             case 32: for (n = -1; n < 7; n++) same("status(" + n + ")", x.status(n), o.status(n)); return;
-            default: same("end(" + n(k) + ")", x.end(n(k)), o.end(n(k))); return;
+            default: same("end(" + k + ")", x.end(k), o.end(k)); return;
         }
     }
-    private static int n(int k) { return k; }
-
     private void runCalls(boolean dear) {
         for (int k = 0; k < 3; k++) {
             tellBeach();
