@@ -2,6 +2,8 @@
 public final class FaultTest {
     private static final String I = "idea i depth 1;";
     private static final String IJ = "idea i depth 1;idea j depth 1;";
+    private static final String OWN_WORDS = "idea depth need for bather lung wits plan in tide keeps fades bears squall"
+            + " hour known strength rooted number knows ready or and not all min max";
     private static final String IB = "idea i depth 1;bather b lung 1 wits 1;";
 
     private static void beach(String text, int fault, int place) {
@@ -68,7 +70,10 @@ public final class FaultTest {
         beach("idea ;", 1, 5);
         beach("idea for", 1, 5);
         beach("idea strength depth 1;", 1, 5);
-        beach("idea squall", 1, 5);
+        for (String word : OWN_WORDS.split(" ")) {
+            beach("idea " + word + " depth 1;", 1, 5);
+            beach(I + "need i for " + word + ";", 1, I.length() + 11);
+        }
         beach("idea strengt", 1, 11);
         beach("idea strengths", 1, 11);
         beach("idea squalls", 1, 11);
@@ -108,6 +113,8 @@ public final class FaultTest {
         beach("tide (1;", 1, 7);
         beach("tide 1);", 1, 6);
         beach("tide min 1;", 1, 9);
+        beach("tide min;", 1, 8);
+        beach("tide max;", 1, 8);
         beach("tide min(1);", 1, 10);
         beach("tide max(1,2,3);", 1, 12);
         beach("tide 1<2;", 1, 6);
@@ -142,7 +149,8 @@ public final class FaultTest {
         beach("idea i depth 0010;", 2, 13);
         beach("idea i depth 9999x", 2, 13);
         beach("bather b lung 10 wits 1;", 2, 14);
-        beach("bather b lung 9 wits 11;", 2, 21);
+        beach("bather b lung 9 wits 10;", 2, 21);
+        beach("tide 9999;", 0, -1);
         beach("squall 101;", 2, 7);
         beach("squall 100;", 0, -1);
     }

@@ -10,6 +10,7 @@ import java.util.Map;
  */
 final class Oracle {
     static final class Fault extends RuntimeException {
+        private static final long serialVersionUID = 1;
         final int what;
         final int where;
         Fault(int what, int where) { this.what = what; this.where = where; }

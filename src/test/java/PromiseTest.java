@@ -16,10 +16,6 @@ public final class PromiseTest {
         Asked.due(what, want, got);
     }
 
-    private static void tells(DeepBathing x, int[] octets) {
-        Asked.put(x, octets);
-    }
-
     private static void promise1() {
         DeepBathing x = new DeepBathing();
         for (int what = 0; what <= 10; what++) {
@@ -284,6 +280,15 @@ public final class PromiseTest {
         sum("(9999*9999+9999-9999*99-9999)/10", 10);
         sum("((0-9999)*9999-9999+9999*99+9999)/1000", -1);
         sum("hour", 0);
+        sum("1+1*(1+1*(1+1*(1+1*(1+1*(1+1)))))", 7);
+        sum("max(0,1+1*max(0,1+1*max(0,1+1*max(0,1+1*max(0,1+1)))))", 6);
+        StringBuilder longest = new StringBuilder("tide 803");
+        for (int k = 0; k < 795; k++) {
+            longest.append("-1");
+        }
+        due("11 as long as can be", 8, Asked.told(longest.append(";").toString()).has(5));
+        due("11 six open", 1, Asked.told("idea a depth 0;bather b lung 0 wits 0;"
+                + "bears 1=2 or all and[1=2 or all and[1=2 or all and[1=2 or all and 1+1*(1+1*(1+1))=4]]];").bather(0, 3));
     }
 
     private static void promise12() {
@@ -464,6 +469,12 @@ public final class PromiseTest {
         Asked.put(x, image(new int[] {3, 227, 50, 0, 0}));
         x.on();
         due("17 not beyond hour 999", 4, x.lasts(0, 0));
+        x = Asked.told("idea a depth 0;bather b lung 0 wits 0;fades strength-hour;");
+        x.duck(0, 0);
+        due("17 by the hours: 20, 19, 17, 14, 10, 5", 6, x.lasts(0, 0));
+        x.hours(2);
+        x.duck(0, 0);
+        due("17 by the hours: 18, 15, 11, 6", 4, x.lasts(0, 0));
     }
 
     private static void promise18() {
@@ -539,6 +550,10 @@ public final class PromiseTest {
         change(x, 2, 1, 2, 20);
         change(x, 3, NONE, NONE, 20);
         change(x, 30, 1, 2, 20);
+        x = Asked.told(BEACH);
+        x.hours(1);
+        x.forget(0, 0);
+        change(x, 1, 0, 1, 38);
         x = Asked.told("idea a depth 0;bather t lung 0 wits 0;plan t in a;");
         change(x, 4, NONE, NONE, 20);
         Asked.put(x, image(new int[] {3, 226, 50, 0, 0}));
@@ -693,6 +708,11 @@ public final class PromiseTest {
         telling(x, 0, 1, 0, 2);
         x = Asked.told("idea a depth 0;bather t lung 0 wits 7;");
         telling(x, 0, 1, 0, 10);
+        x = Asked.told(ONE + "keeps wits;");
+        telling(x, 0, 1, 0, 2);
+        x = Asked.told(ONE + "keeps wits+1;");
+        found(x, 1, 0, 0, 1);
+        telling(x, 0, 1, 0, 1);
         x = Asked.told(ONE + "bears hour=29;fades strength;");
         telling(x, 0, 30, 0, 1);
         x = Asked.told(ONE + "bears hour=30;fades strength;");
@@ -766,12 +786,13 @@ public final class PromiseTest {
         DeepBathing x = Asked.told(BEACH);
         due("27 it is that", false, x.send(0, 0, 0));
         due("27 no row", false, x.send(3, 0, 0));
+        due("27 no row", false, x.send(3, 1, 1));
         due("27 no row", false, x.send(-1, 0, 0));
         due("27 no bather", false, x.send(0, 2, 0));
         due("27 no bather", false, x.send(0, -1, 0));
         due("27 no idea", false, x.send(0, 0, 3));
         due("27 no idea", false, x.send(0, 0, -1));
-        due("27 refused", 7, x.status(2));
+        due("27 refused", 8, x.status(2));
         due("27 no act", 0, x.has(10));
         due("27 another idea", true, x.send(0, 0, 2));
         due("27 another bather", true, x.send(2, 1, 1));
@@ -1087,7 +1108,58 @@ public final class PromiseTest {
         due("36 others", NONE, x.status(-1));
     }
 
+    /** As much of all as there can be. */
+    private static void full() {
+        StringBuilder s = new StringBuilder();
+        for (int k = 0; k < 8; k++) {
+            s.append("idea idea").append((char) ('a' + k)).append(" depth ").append(k).append(';');
+        }
+        for (int k = 0; k < 6; k++) {
+            s.append("bather b").append((char) ('a' + k)).append(" lung ").append(k).append(" wits 0;");
+        }
+        for (int k = 0; k < 16; k++) {
+            s.append("plan b").append((char) ('a' + k % 6)).append(" in idea").append((char) ('a' + k % 8)).append(';');
+        }
+        s.append("squall 50;");
+        DeepBathing x = Asked.told(s.toString());
+        due("full rows", 16, x.has(3));
+        match(x, 20 + 19 + 18 + 17 + 16 + 15, 0, 1, 2, 3, 4, 5);
+        change(x, 1, NONE, NONE, 20);
+        course(x, 5, 7, 7);
+        due("full learns", 16, x.learns(3, 7));
+        due("full odds", 1000, x.odds(0, 0));
+        due("full odds of squalls", 500 + 50 * 9, x.send(0, 0, 1) ? x.odds(0, 1) : 0);
+        x.undo();
+        due("full wits", 1023, x.wits(5));
+        telling(x, 5, 6, 5, 1);
+        due("full hours", 16, x.hours(16));
+        due("full kept", 16, x.has(8));
+        due("full known", 16, x.has(6));
+        due("full sums", x.has(7), Asked.ask(x, "total knows 0+knows 1+knows 2+knows 3+knows 4+knows 5+knows 6+knows 7"));
+        due("full bits", 1 | 1 << 4 | 1 << 6, x.bather(0, 2));
+        due("full ready", 255, x.bather(5, 3));
+        due("full knowers", 2, x.idea(7, 3));
+        ask(x, "total known", 16);
+        ask(x, "total ready 7", 6);
+        ask(x, "total knows 7", 13 + 13 - 8);
+        ask(x, "last knows 7>0", 3);
+        due("full image", 83, x.image());
+        int[] octets = new int[83];
+        for (int k = 0; k < 83; k++) {
+            octets[k] = x.octet(k);
+        }
+        due("full, the last row", 3, octets[80]);
+        due("full, the last row", 7, octets[81]);
+        due("full lasts", 12, x.lasts(3, 7));
+        x.hours(100);
+        Asked.put(x, octets);
+        due("full on", true, x.on());
+        due("full hour", 16, x.has(4));
+        due("full known again", 16, x.has(6));
+    }
+
     public static void main(String[] args) {
+        full();
         promise1();
         promise2();
         promise3();
