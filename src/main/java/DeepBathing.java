@@ -26,20 +26,13 @@ public final class DeepBathing {
     private static final int WITS = 10;
     private static final int MOST_IMAGE = 3 + MOST_BATHERS * MOST_IDEAS + 2 * MOST_ROWS;
 
-    /** The formulas of a BEACH, by their places in it; a QUESTION has the words of one more kind. */
+    /** The kinds of formulas: those of a BEACH, and that of a QUESTION. */
     private static final int TIDE = 0;
     private static final int KEEPS = 1;
     private static final int FADES = 2;
     private static final int BEARS = 3;
     private static final int QUESTION = 4;
-
-    /** The words that a QUESTION begins with. */
-    private static final int FIRST = 0;
-    private static final int LAST = 1;
-    private static final int OFTEN = 2;
-    private static final int TOTAL = 3;
-    private static final int MOST = 4;
-    private static final int LEAST = 5;
+    private static final int FORMULAS = 5;
 
     /** Places of what a formula sees; an order below SIGHTS lays what is seen there on the pile. */
     private static final int SEE_HOUR = 0;
@@ -461,18 +454,18 @@ public final class DeepBathing {
     }
 
     private long answer(int word) {
-        long got = word == FIRST || word == LAST ? NONE : 0;
+        long got = word == Text.FIRST || word == Text.LAST ? NONE : 0;
         int tide = life.tideAt(now.hour);
         for (int b = 0; b < beach.bathers; b++) {
             life.settle(now.strong[b], b, beach.wits[b], now.hour, tide);
             int value = life.valueOf(question, b, now.strong[b]);
-            if (word == OFTEN || word == TOTAL) {
+            if (word == Text.OFTEN || word == Text.TOTAL) {
                 got += value;
-            } else if (word == MOST) {
+            } else if (word == Text.MOST) {
                 got = b == 0 ? value : Math.max(got, value);
-            } else if (word == LEAST) {
+            } else if (word == Text.LEAST) {
                 got = b == 0 ? value : Math.min(got, value);
-            } else if (value != 0 && (word == LAST || got == NONE)) {
+            } else if (value != 0 && (word == Text.LAST || got == NONE)) {
                 got = b;
             }
         }
@@ -637,7 +630,7 @@ public final class DeepBathing {
         System.arraycopy(from, 0, to, 0, Math.min(from.length, to.length));
     }
 
-    /** Formulas as orders to a pile: each lays a value on it, or takes one or two for one. */
+    /** Formulas, one of a kind, as orders to a pile: each lays a value on it, or takes one or two for one. */
     private static final class Orders {
         /** A text has fewer parts than bytes; the rest is for the formulas that are not told. */
         private static final int MOST_ORDERS = MOST_BYTES + 20;
@@ -646,8 +639,35 @@ public final class DeepBathing {
         private static final int HELD = 1000000;
 
         private final int[] code = new int[MOST_ORDERS];
+        private final int[] from = new int[FORMULAS];
+        private final int[] to = new int[FORMULAS];
         private final int[] pile = new int[PILE];
         private int size;
+
+        Orders() {
+            clear();
+        }
+
+        void clear() {
+            size = 0;
+            for (int kind = 0; kind < FORMULAS; kind++) {
+                from[kind] = NONE;
+                to[kind] = NONE;
+            }
+        }
+
+        boolean isTold(int kind) {
+            return from[kind] != NONE;
+        }
+
+        /** What is added until finish is the formula of that kind. */
+        void begin(int kind) {
+            from[kind] = size;
+        }
+
+        void finish(int kind) {
+            to[kind] = size;
+        }
 
         void add(int order) {
             if (size < MOST_ORDERS) {
@@ -660,9 +680,9 @@ public final class DeepBathing {
             add(number << 8 | NUMBER);
         }
 
-        int value(int from, int to, int[] seen) {
+        int value(int kind, int[] seen) {
             int top = 0;
-            for (int k = Math.max(0, from); k < to && k < MOST_ORDERS; k++) {
+            for (int k = Math.max(0, from[kind]); k < to[kind] && k < MOST_ORDERS; k++) {
                 int order = code[k] & 255;
                 if (order < seen.length && top < PILE) {
                     pile[top] = seen[order];
@@ -733,8 +753,6 @@ public final class DeepBathing {
         private final int[] planBather = new int[MOST_ROWS];
         private final int[] planIdea = new int[MOST_ROWS];
         private final Orders orders = new Orders();
-        private final int[] from = new int[QUESTION];
-        private final int[] to = new int[QUESTION];
         private int ideas;
         private int needsTold;
         private int bathers;
@@ -752,11 +770,7 @@ public final class DeepBathing {
             bathers = 0;
             rows = 0;
             squall = 0;
-            orders.size = 0;
-            for (int kind = 0; kind < QUESTION; kind++) {
-                from[kind] = NONE;
-                to[kind] = NONE;
-            }
+            orders.clear();
         }
 
         int ideaNamed(int name) {
@@ -807,10 +821,6 @@ public final class DeepBathing {
             }
         }
 
-        int worth(int kind, int[] seen) {
-            return orders.value(from[kind], to[kind], seen);
-        }
-
         /** The ROOTS, and the formulas that the text has not told. */
         void finish() {
             for (int i = 0; i < ideas; i++) {
@@ -822,10 +832,10 @@ public final class DeepBathing {
                 }
             }
             for (int kind = 0; kind < QUESTION; kind++) {
-                if (from[kind] == NONE) {
-                    from[kind] = orders.size;
+                if (!orders.isTold(kind)) {
+                    orders.begin(kind);
                     addUntold(kind);
-                    to[kind] = orders.size;
+                    orders.finish(kind);
                 }
             }
         }
@@ -977,7 +987,7 @@ public final class DeepBathing {
 
         int tideAt(int hour) {
             seen[SEE_HOUR] = hour;
-            return between(beach.worth(TIDE, seen), 0, MOST_TIDE);
+            return between(beach.orders.value(TIDE, seen), 0, MOST_TIDE);
         }
 
         /** Sets out one BATHER for what is asked of him next. */
@@ -999,7 +1009,7 @@ public final class DeepBathing {
                 return false;
             }
             seen[SEE_DEPTH] = beach.depth[idea];
-            return beach.worth(BEARS, seen) != 0;
+            return beach.orders.value(BEARS, seen) != 0;
         }
 
         int readyBits() {
@@ -1014,12 +1024,15 @@ public final class DeepBathing {
 
         int strengthBy(int idea) {
             seen[SEE_DEPTH] = beach.depth[idea];
-            return between(beach.worth(KEEPS, seen), 1, MOST_STRENGTH);
+            return between(beach.orders.value(KEEPS, seen), 1, MOST_STRENGTH);
         }
 
-        /** An HOUR of one BATHER: by which strength he was DUCKED in what is planned, 0 if not. */
+        /**
+         * An HOUR of one BATHER: by which strength he was DUCKED in what is planned, 0 if not. Without a TIDE (NONE)
+         * it is the one that is told; nothing but a DUCKING asks for it.
+         */
         int pass(int[] strong, int bather, int wits, int hour, int planned, int tide) {
-            settle(strong, bather, wits, hour, tide);
+            settle(strong, bather, wits, hour, planned != NONE && tide == NONE ? tideAt(hour) : tide);
             int ducked = 0;
             if (planned != NONE && isReady(planned)) {
                 ducked = strengthBy(planned);
@@ -1038,14 +1051,7 @@ public final class DeepBathing {
             seen[SEE_DEPTH] = beach.depth[idea];
             seen[SEE_STRENGTH] = strength;
             seen[SEE_ROOTED] = (beach.needs[idea] & ~known) == 0 ? 1 : 0;
-            return between(beach.worth(FADES, seen), 0, MOST_STRENGTH);
-        }
-
-        /** An HOUR AHEAD of one BATHER, by the PLAN of a moment. */
-        void passAhead(Moment plan, int[] strong, int bather, int wits, int hour) {
-            int planned = plan.plannedFor(bather, hour);
-            int tide = planned == NONE ? 0 : tideAt(hour);
-            pass(strong, bather, wits, hour, planned, tide);
+            return between(beach.orders.value(FADES, seen), 0, MOST_STRENGTH);
         }
 
         /** An HOUR of all: how many were DUCKED. */
@@ -1070,7 +1076,7 @@ public final class DeepBathing {
             for (int i = 0; i < MOST_IDEAS; i++) {
                 seen[SEE_STRONG + i] = i < beach.ideas ? strong[i] : 0;
             }
-            return question.value(0, question.size, seen);
+            return question.value(QUESTION, seen);
         }
     }
 
@@ -1107,12 +1113,14 @@ public final class DeepBathing {
             return Math.min(most, LAST_HOUR - now.hour);
         }
 
-        /** Leaves in row how a BATHER of such wits stands behind n HOURS AHEAD. */
-        private void runRow(Moment plan, int bather, int wits, int n) {
+        /** Leaves in row how a BATHER of such wits stands behind n HOURS AHEAD: all his strengths together. */
+        private int runRow(Moment plan, int bather, int wits, int n) {
             copyRow(now.strong[bather], row);
             for (int k = 0; k < n; k++) {
-                life.passAhead(plan, row, bather, wits, now.hour + k);
+                int hour = now.hour + k;
+                life.pass(row, bather, wits, hour, plan.plannedFor(bather, hour), NONE);
             }
+            return sumOf(row);
         }
 
         int strengthBehind(int bather, int idea, int n) {
@@ -1127,7 +1135,8 @@ public final class DeepBathing {
                 if (row[idea] > 0) {
                     return k;
                 }
-                life.passAhead(now, row, bather, life.beach.wits[bather], now.hour + k);
+                int hour = now.hour + k;
+                life.pass(row, bather, life.beach.wits[bather], hour, now.plannedFor(bather, hour), NONE);
             }
             return NONE;
         }
@@ -1136,7 +1145,7 @@ public final class DeepBathing {
             copyRow(now.strong[bather], row);
             int most = hoursToCome(MOST_AHEAD);
             for (int k = 0; k < most; k++) {
-                life.pass(row, bather, life.beach.wits[bather], now.hour + k, NONE, 0);
+                life.pass(row, bather, life.beach.wits[bather], now.hour + k, NONE, NONE);
                 if (row[idea] == 0) {
                     return k;
                 }
@@ -1192,7 +1201,7 @@ public final class DeepBathing {
             otherRow = NONE;
             changeSum = 0;
             for (int b = 0; b < life.beach.bathers; b++) {
-                sums[b] = sumBehind(b, n);
+                sums[b] = runRow(trial, b, life.beach.wits[b], n);
                 changeSum += sums[b];
             }
             int unchanged = changeSum;
@@ -1219,9 +1228,9 @@ public final class DeepBathing {
             trial.swapRows(j, k);
             int one = now.planBather[j];
             int other = now.planBather[k];
-            int sum = unchanged - sums[one] + sumBehind(one, n);
+            int sum = unchanged - sums[one] + runRow(trial, one, life.beach.wits[one], n);
             if (other != one) {
-                sum += sumBehind(other, n) - sums[other];
+                sum += runRow(trial, other, life.beach.wits[other], n) - sums[other];
             }
             trial.swapRows(j, k);
             if (sum > changeSum) {
@@ -1229,11 +1238,6 @@ public final class DeepBathing {
                 otherRow = k;
                 changeSum = sum;
             }
-        }
-
-        private int sumBehind(int bather, int n) {
-            runRow(trial, bather, life.beach.wits[bather], n);
-            return sumOf(row);
         }
 
         /** The sum of the MATCH; picks has its IDEAS. */
@@ -1340,8 +1344,10 @@ public final class DeepBathing {
             }
             int most = hoursToCome(MOST_FAR);
             for (int k = 1; k <= most; k++) {
+                int hour = now.hour + k - 1;
+                int planned = now.plannedFor(bather, hour);
                 for (int wits = 0; wits < WITS; wits++) {
-                    life.passAhead(now, guesses[wits], bather, wits, now.hour + k - 1);
+                    life.pass(guesses[wits], bather, wits, hour, planned, NONE);
                 }
                 for (int i = 0; i < life.beach.ideas; i++) {
                     int alike = mostAlike(i, left);
@@ -1370,20 +1376,59 @@ public final class DeepBathing {
         }
     }
 
-    /** The words, numbers and signs of a text, with its first FAULT: behind one it is at its end. */
+    /**
+     * A text word by word, number by number, sign by sign, with its first FAULT. What stands here is not blamed
+     * until it is asked for, so that a FAULT further ahead is told first; behind a FAULT the text is at its end.
+     */
     private static final class Text {
+        /** What can stand here beside signs, each of which is its own byte, and the words of WORDS. */
         private static final int END = -1;
-        private static final int NEITHER = 0;
-        private static final int WORD = 1;
-        private static final int DIGIT = 2;
+        private static final int SIDE_BY_SIDE = 256;
+        private static final int NUMBER = 257;
+        private static final int NAME = 258;
+
+        /** The words as they follow one another in WORDS; those from FIRST on can be NAMES too. */
+        private static final int IDEA = 259;
+        private static final int DEPTH = 260;
+        private static final int NEED = 261;
+        private static final int FOR = 262;
+        private static final int BATHER = 263;
+        private static final int LUNG = 264;
+        private static final int WITS = 265;
+        private static final int PLAN = 266;
+        private static final int IN = 267;
+        private static final int TIDE = 268;
+        private static final int KEEPS = 269;
+        private static final int FADES = 270;
+        private static final int BEARS = 271;
+        private static final int SQUALL = 272;
+        private static final int HOUR = 273;
+        private static final int KNOWN = 274;
+        private static final int STRENGTH = 275;
+        private static final int ROOTED = 276;
+        private static final int BY_NUMBER = 277;
+        private static final int KNOWS = 278;
+        private static final int READY = 279;
+        private static final int OR = 280;
+        private static final int AND = 281;
+        private static final int NOT = 282;
+        private static final int ALL = 283;
+        private static final int MIN = 284;
+        private static final int MAX = 285;
+        private static final int FIRST = 286;
+        private static final int LAST = 287;
+        private static final int OFTEN = 288;
+        private static final int TOTAL = 289;
+        private static final int MOST = 290;
+        private static final int LEAST = 291;
         /** Each with a blank behind it. */
-        private static final String OWN_WORDS =
-                "idea depth need for bather lung wits plan in tide keeps fades bears squall hour known strength rooted number knows ready or and not all min max ";
+        private static final String WORDS = "idea depth need for bather lung wits plan in tide keeps fades bears squall hour known strength rooted number knows ready or and not all min max first last often total most least ";
 
         private final byte[] bytes;
         private int length;
-        private int at;
-        private int touching;
+        private int here;
+        private int from;
+        private int to;
         private int nameAt;
         private int fault;
         private int place;
@@ -1394,16 +1439,20 @@ public final class DeepBathing {
 
         void open(int count) {
             length = Math.min(count, bytes.length);
-            at = 0;
-            touching = NEITHER;
+            here = END;
+            from = 0;
+            to = 0;
             fault = 0;
             place = NONE;
+            next();
         }
 
+        /** Only the first one counts. */
         void fail(int what, int where) {
             if (fault == 0) {
                 fault = what;
                 place = where;
+                here = END;
             }
         }
 
@@ -1415,131 +1464,105 @@ public final class DeepBathing {
             return c >= '0' && c <= '9';
         }
 
-        /** The byte that comes behind blanks. */
-        int look() {
-            for (; at < length && (bytes[at] == 10 || bytes[at] == 32); at++) {
-                touching = NEITHER;
+        /** Goes on to what comes behind blanks. */
+        void next() {
+            from = to;
+            while (from < length && (bytes[from] == 10 || bytes[from] == 32)) {
+                from++;
             }
-            if (fault != 0 || at >= length) {
-                return END;
+            if (fault != 0 || from >= length) {
+                here = END;
+                return;
             }
-            int c = bytes[at] & 255;
-            if (touching == WORD && isDigit(c) || touching == DIGIT && isLetter(c)) {
-                fail(1, at);
-                return END;
-            }
-            return c;
-        }
-
-        private void goOn(int bytesOn, int sort) {
-            at += bytesOn;
-            touching = sort;
-        }
-
-        boolean takeSign(int sign) {
-            if (look() != sign) {
-                return false;
-            }
-            goOn(1, NEITHER);
-            return true;
-        }
-
-        void askSign(int sign) {
-            if (!takeSign(sign)) {
-                fail(1, at);
+            boolean touches = from == to && from > 0;
+            int before = touches ? bytes[from - 1] : 0;
+            int c = bytes[from];
+            to = from + 1;
+            if (isLetter(c)) {
+                while (to < length && isLetter(bytes[to])) {
+                    to++;
+                }
+                here = isDigit(before) ? SIDE_BY_SIDE : wordHere();
+            } else if (isDigit(c)) {
+                while (to < length && isDigit(bytes[to])) {
+                    to++;
+                }
+                here = isLetter(before) ? SIDE_BY_SIDE : NUMBER;
+            } else {
+                here = c & 255;
             }
         }
 
-        /** Whether the word that comes is, whole, the part of words from one place to another. */
-        private boolean isSpelt(String words, int from, int to) {
-            int end = at + to - from;
-            if (end > length) {
-                return false;
-            }
-            for (int k = from; k < to; k++) {
-                if (bytes[at + k - from] != words.charAt(k)) {
-                    return false;
+        private int wordHere() {
+            int word = IDEA;
+            int k = from;
+            boolean same = true;
+            for (int w = 0; w < WORDS.length(); w++) {
+                if (WORDS.charAt(w) != ' ') {
+                    same = same && k < to && bytes[k] == WORDS.charAt(w);
+                    k++;
+                } else if (same && k == to) {
+                    return word;
+                } else {
+                    word++;
+                    k = from;
+                    same = true;
                 }
             }
-            return end == length || !isLetter(bytes[end]);
+            return NAME;
         }
 
-        boolean seesWord(String word) {
-            return isLetter(look()) && isSpelt(word, 0, word.length());
-        }
-
-        boolean takeWord(String word) {
-            if (!seesWord(word)) {
+        boolean take(int what) {
+            if (here != what || here == END) {
                 return false;
             }
-            goOn(word.length(), WORD);
+            next();
             return true;
         }
 
-        void askWord(String word) {
-            if (!takeWord(word)) {
-                fail(1, at);
+        void expect(int what) {
+            if (!take(what)) {
+                fail(1, from);
             }
-        }
-
-        boolean seesNumber() {
-            return isDigit(look());
         }
 
         int askNumber(int most) {
-            if (!seesNumber()) {
-                fail(1, at);
+            if (here != NUMBER) {
+                fail(1, from);
+                return 0;
+            }
+            if (to - from > DIGITS) {
+                fail(1, from + DIGITS);
                 return 0;
             }
             int number = 0;
-            int digits = 0;
-            for (int k = at; k < length && isDigit(bytes[k]); k++) {
-                if (digits == DIGITS) {
-                    fail(1, k);
-                    return 0;
-                }
+            for (int k = from; k < to; k++) {
                 number = 10 * number + bytes[k] - '0';
-                digits++;
             }
             if (number > most) {
-                fail(2, at);
+                fail(2, from);
                 return 0;
             }
-            goOn(digits, DIGIT);
+            next();
             return number;
         }
 
-        private boolean isOwnWord() {
-            int from = 0;
-            for (int k = 0; k < OWN_WORDS.length(); k++) {
-                if (OWN_WORDS.charAt(k) == ' ') {
-                    if (isSpelt(OWN_WORDS, from, k)) {
-                        return true;
-                    }
-                    from = k + 1;
-                }
-            }
-            return false;
-        }
-
-        /** A name as a number; nameAt is where it stands. */
+        /** A name as a number, five bits a letter; nameAt is where it stands. */
         int askName() {
-            if (!isLetter(look()) || isOwnWord()) {
-                fail(1, at);
+            if (here != NAME && here < FIRST) {
+                fail(1, from);
+                return 0;
+            }
+            if (to - from > NAME_LETTERS) {
+                fail(1, from + NAME_LETTERS);
                 return 0;
             }
             int name = 0;
-            int letters = 0;
-            for (int k = at; k < length && isLetter(bytes[k]); k++) {
-                if (letters == NAME_LETTERS) {
-                    fail(1, k);
-                    return 0;
-                }
-                name |= bytes[k] - 'a' + 1 << 5 * letters;
-                letters++;
+            for (int k = from; k < to; k++) {
+                name |= bytes[k] - 'a' + 1 << 5 * (k - from);
             }
-            nameAt = at;
-            goOn(letters, WORD);
+            nameAt = from;
+            next();
             return name;
         }
     }
@@ -1555,21 +1578,15 @@ public final class DeepBathing {
             this.orders = orders;
         }
 
-        void readTest(Orders into, int ofKind) {
+        void begin(Orders into, int ofKind) {
             orders = into;
             kind = ofKind;
-            test(0);
+            orders.begin(kind);
         }
 
-        void readSum(Orders into, int ofKind) {
-            orders = into;
-            kind = ofKind;
-            sum(0);
-        }
-
-        private void test(int open) {
+        void test(int open) {
             both(open);
-            for (int k = 0; k < MOST_BYTES && text.takeWord("or"); k++) {
+            for (int k = 0; k < MOST_BYTES && text.take(Text.OR); k++) {
                 both(open);
                 orders.add(OR);
             }
@@ -1577,60 +1594,49 @@ public final class DeepBathing {
 
         private void both(int open) {
             fact(open);
-            for (int k = 0; k < MOST_BYTES && text.takeWord("and"); k++) {
+            for (int k = 0; k < MOST_BYTES && text.take(Text.AND); k++) {
                 fact(open);
                 orders.add(AND);
             }
         }
 
         private void fact(int open) {
-            if (text.seesWord("not")) {
-                if (mayOpen(open)) {
-                    text.takeWord("not");
+            if (text.here == Text.NOT) {
+                if (opens(open)) {
                     fact(open + 1);
                     orders.add(NOT);
                 }
-            } else if (text.look() == '[') {
-                if (mayOpen(open)) {
-                    text.takeSign('[');
+            } else if (text.here == '[') {
+                if (opens(open)) {
                     test(open + 1);
-                    text.askSign(']');
+                    text.expect(']');
                 }
-            } else if (text.takeWord("all")) {
+            } else if (text.take(Text.ALL)) {
                 orders.addNumber(1);
             } else {
                 sum(open);
-                int order = takenSign();
+                int order = text.here == '<' ? LESS : text.here == '>' ? MORE : SAME;
+                text.expect(order == LESS ? '<' : order == MORE ? '>' : '=');
                 sum(open);
                 orders.add(order);
             }
         }
 
-        private boolean mayOpen(int open) {
+        /** Whether what stands here may be open beside those that are; then it is taken. */
+        private boolean opens(int open) {
             if (open >= MOST_OPEN) {
-                text.fail(4, text.at);
+                text.fail(4, text.from);
+                return false;
             }
-            return text.fault == 0;
+            text.next();
+            return true;
         }
 
-        private int takenSign() {
-            if (text.takeSign('<')) {
-                return LESS;
-            }
-            if (text.takeSign('>')) {
-                return MORE;
-            }
-            text.askSign('=');
-            return SAME;
-        }
-
-        private void sum(int open) {
+        void sum(int open) {
             product(open);
-            for (int k = 0; k < MOST_BYTES; k++) {
-                int order = text.takeSign('+') ? PLUS : text.takeSign('-') ? MINUS : NONE;
-                if (order == NONE) {
-                    return;
-                }
+            for (int k = 0; k < MOST_BYTES && (text.here == '+' || text.here == '-'); k++) {
+                int order = text.here == '+' ? PLUS : MINUS;
+                text.next();
                 product(open);
                 orders.add(order);
             }
@@ -1638,91 +1644,93 @@ public final class DeepBathing {
 
         private void product(int open) {
             part(open);
-            for (int k = 0; k < MOST_BYTES; k++) {
-                int order = text.takeSign('*') ? TIMES : text.takeSign('/') ? OVER : NONE;
-                if (order == NONE) {
-                    return;
-                }
+            for (int k = 0; k < MOST_BYTES && (text.here == '*' || text.here == '/'); k++) {
+                int order = text.here == '*' ? TIMES : OVER;
+                text.next();
                 part(open);
                 orders.add(order);
             }
         }
 
         private void part(int open) {
-            if (text.seesNumber()) {
-                orders.addNumber(text.askNumber(9999));
-            } else if (text.look() == '(') {
-                if (mayOpen(open)) {
-                    text.takeSign('(');
-                    sum(open + 1);
-                    text.askSign(')');
-                }
-            } else if (text.takeWord("min")) {
-                pair(open, MIN);
-            } else if (text.takeWord("max")) {
-                pair(open, MAX);
-            } else if (kind == QUESTION && text.seesWord("knows")) {
-                ofIdea(open, "knows", KNOWS);
-            } else if (kind == QUESTION && text.seesWord("ready")) {
-                ofIdea(open, "ready", READY);
-            } else {
-                int sight = takenSight();
-                if (sight == NONE) {
-                    text.fail(1, text.at);
-                } else {
-                    orders.add(sight);
-                }
+            switch (text.here) {
+                case Text.NUMBER:
+                    orders.addNumber(text.askNumber(9999));
+                    break;
+                case '(':
+                    if (opens(open)) {
+                        sum(open + 1);
+                        text.expect(')');
+                    }
+                    break;
+                case Text.MIN:
+                    text.next();
+                    pair(open, MIN);
+                    break;
+                case Text.MAX:
+                    text.next();
+                    pair(open, MAX);
+                    break;
+                case Text.KNOWS:
+                    ofIdea(open, KNOWS);
+                    break;
+                case Text.READY:
+                    ofIdea(open, READY);
+                    break;
+                default:
+                    sight();
+                    break;
             }
         }
 
         private void pair(int open, int order) {
-            if (text.look() != '(') {
-                text.fail(1, text.at);
-            } else if (mayOpen(open)) {
-                text.takeSign('(');
+            if (text.here != '(') {
+                text.fail(1, text.from);
+            } else if (opens(open)) {
                 sum(open + 1);
-                text.askSign(',');
+                text.expect(',');
                 sum(open + 1);
-                text.askSign(')');
+                text.expect(')');
                 orders.add(order);
             }
         }
 
-        private void ofIdea(int open, String word, int order) {
-            if (mayOpen(open)) {
-                text.takeWord(word);
+        private void ofIdea(int open, int order) {
+            if (kind != QUESTION) {
+                text.fail(1, text.from);
+            } else if (opens(open)) {
                 part(open + 1);
                 orders.add(order);
             }
         }
 
-        /** The words that stand for a number in this kind of formula. */
-        private int takenSight() {
-            if (text.takeWord("hour")) {
-                return SEE_HOUR;
+        private void sight() {
+            int sight = sightHere();
+            if (sight == NONE) {
+                text.fail(1, text.from);
+            } else {
+                orders.add(sight);
+                text.next();
             }
-            if (kind != TIDE && text.takeWord("wits")) {
-                return SEE_WITS;
+        }
+
+        /** What the word here stands for in this kind of formula. */
+        private int sightHere() {
+            boolean ofBather = kind != TIDE;
+            boolean ofIdea = ofBather && kind != QUESTION;
+            boolean ofBody = ofBather && kind != FADES;
+            switch (text.here) {
+                case Text.HOUR: return SEE_HOUR;
+                case Text.WITS: return ofBather ? SEE_WITS : NONE;
+                case Text.KNOWN: return ofBather ? SEE_KNOWN : NONE;
+                case Text.DEPTH: return ofIdea ? SEE_DEPTH : NONE;
+                case Text.LUNG: return ofBody ? SEE_LUNG : NONE;
+                case Text.TIDE: return ofBody ? SEE_TIDE : NONE;
+                case Text.STRENGTH: return kind == FADES ? SEE_STRENGTH : NONE;
+                case Text.ROOTED: return kind == FADES ? SEE_ROOTED : NONE;
+                case Text.BY_NUMBER: return kind == QUESTION ? SEE_NUMBER : NONE;
+                default: return NONE;
             }
-            if (kind != TIDE && text.takeWord("known")) {
-                return SEE_KNOWN;
-            }
-            if (kind != TIDE && kind != QUESTION && text.takeWord("depth")) {
-                return SEE_DEPTH;
-            }
-            if (kind != TIDE && kind != FADES && text.takeWord("lung")) {
-                return SEE_LUNG;
-            }
-            if (kind != TIDE && kind != FADES && text.takeWord("tide")) {
-                return SEE_TIDE;
-            }
-            if (kind == FADES && text.takeWord("strength")) {
-                return SEE_STRENGTH;
-            }
-            if (kind == FADES && text.takeWord("rooted")) {
-                return SEE_ROOTED;
-            }
-            return kind == QUESTION && text.takeWord("number") ? SEE_NUMBER : NONE;
         }
     }
 
@@ -1743,40 +1751,37 @@ public final class DeepBathing {
             beach = into;
             beach.clear();
             int told = 0;
-            for (int k = 0; k <= MOST_STATEMENTS && text.look() != Text.END; k++) {
-                if (told == MOST_STATEMENTS) {
-                    text.fail(5, text.at);
-                } else {
-                    readStatement();
-                    text.askSign(';');
-                    told++;
-                }
+            while (told < MOST_STATEMENTS && text.here != Text.END) {
+                readStatement();
+                text.expect(';');
+                told++;
+            }
+            if (text.here != Text.END) {
+                text.fail(5, text.from);
             }
             beach.finish();
             return told;
         }
 
         private void readStatement() {
-            int from = text.at;
-            if (text.takeWord("idea")) {
-                readIdea(from);
-            } else if (text.takeWord("need")) {
-                readNeed(from);
-            } else if (text.takeWord("bather")) {
-                readBather(from);
-            } else if (text.takeWord("plan")) {
-                readRow(from);
-            } else if (text.takeWord("tide")) {
-                readFormula(from, TIDE);
-            } else if (text.takeWord("keeps")) {
-                readFormula(from, KEEPS);
-            } else if (text.takeWord("fades")) {
-                readFormula(from, FADES);
-            } else if (text.takeWord("bears")) {
-                readFormula(from, BEARS);
-            } else {
-                text.askWord("squall");
-                beach.squall = text.askNumber(100);
+            int from = text.from;
+            int word = text.here;
+            if (word < Text.IDEA) {
+                text.fail(1, from);
+                return;
+            }
+            text.next();
+            switch (word) {
+                case Text.IDEA: readIdea(from); break;
+                case Text.NEED: readNeed(from); break;
+                case Text.BATHER: readBather(from); break;
+                case Text.PLAN: readRow(from); break;
+                case Text.TIDE: readFormula(from, TIDE); break;
+                case Text.KEEPS: readFormula(from, KEEPS); break;
+                case Text.FADES: readFormula(from, FADES); break;
+                case Text.BEARS: readFormula(from, BEARS); break;
+                case Text.SQUALL: beach.squall = text.askNumber(100); break;
+                default: text.fail(1, from); break;
             }
         }
 
@@ -1814,14 +1819,14 @@ public final class DeepBathing {
         private void readIdea(int from) {
             askRoom(beach.ideas, MOST_IDEAS, from);
             int name = newName();
-            text.askWord("depth");
+            text.expect(Text.DEPTH);
             beach.addIdea(name, text.askNumber(9));
         }
 
         private void readNeed(int from) {
             askRoom(beach.needsTold, MOST_NEEDS, from);
             int needed = toldIdea();
-            text.askWord("for");
+            text.expect(Text.FOR);
             int idea = toldIdea();
             if (text.fault != 0 || needed == NONE || idea == NONE) {
                 return;
@@ -1837,63 +1842,50 @@ public final class DeepBathing {
         private void readBather(int from) {
             askRoom(beach.bathers, MOST_BATHERS, from);
             int name = newName();
-            text.askWord("lung");
+            text.expect(Text.LUNG);
             int lung = text.askNumber(9);
-            text.askWord("wits");
+            text.expect(Text.WITS);
             beach.addBather(name, lung, text.askNumber(9));
         }
 
         private void readRow(int from) {
             askRoom(beach.rows, MOST_ROWS, from);
             int bather = toldBather();
-            text.askWord("in");
+            text.expect(Text.IN);
             beach.addRow(bather, toldIdea());
         }
 
         private void readFormula(int from, int kind) {
-            askRoom(beach.from[kind] == NONE ? 0 : 1, 1, from);
-            beach.from[kind] = beach.orders.size;
+            askRoom(beach.orders.isTold(kind) ? 1 : 0, 1, from);
+            formulas.begin(beach.orders, kind);
             if (kind == BEARS) {
-                formulas.readTest(beach.orders, kind);
+                formulas.test(0);
             } else {
-                formulas.readSum(beach.orders, kind);
+                formulas.sum(0);
             }
-            beach.to[kind] = beach.orders.size;
+            beach.orders.finish(kind);
         }
 
         /** The word that the QUESTION begins with; its TEST or SUM is in the orders. */
         int readQuestion(Orders question) {
-            question.size = 0;
-            int word = takenQuestionWord();
-            if (word == FIRST || word == LAST || word == OFTEN) {
-                formulas.readTest(question, QUESTION);
-            } else {
-                formulas.readSum(question, QUESTION);
+            int word = text.here;
+            question.clear();
+            formulas.begin(question, QUESTION);
+            if (word < Text.FIRST) {
+                text.fail(1, text.from);
+                return NONE;
             }
-            if (text.look() != Text.END) {
-                text.fail(1, text.at);
+            text.next();
+            if (word == Text.FIRST || word == Text.LAST || word == Text.OFTEN) {
+                formulas.test(0);
+            } else {
+                formulas.sum(0);
+            }
+            question.finish(QUESTION);
+            if (text.here != Text.END) {
+                text.fail(1, text.from);
             }
             return word;
-        }
-
-        private int takenQuestionWord() {
-            if (text.takeWord("first")) {
-                return FIRST;
-            }
-            if (text.takeWord("last")) {
-                return LAST;
-            }
-            if (text.takeWord("often")) {
-                return OFTEN;
-            }
-            if (text.takeWord("total")) {
-                return TOTAL;
-            }
-            if (text.takeWord("most")) {
-                return MOST;
-            }
-            text.askWord("least");
-            return LEAST;
         }
     }
 }
