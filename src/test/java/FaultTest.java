@@ -7,34 +7,19 @@ public final class FaultTest {
     private static final String IB = "idea i depth 1;bather b lung 1 wits 1;";
 
     private static void beach(String text, int fault, int place) {
-        DeepBathing x = new DeepBathing();
-        Asked.put(x, text);
-        int told = x.beach();
-        Asked.due("fault of '" + text + "'", fault, x.fault(0));
-        Asked.due("place of '" + text + "'", place, x.fault(1));
-        Asked.due("refused '" + text + "'", fault == 0, told != DeepBathing.NONE);
+        Asked.beach(text, fault, place);
     }
 
     private static void ask(String text, int fault, int place) {
-        DeepBathing x = new DeepBathing();
-        long answer = Asked.ask(x, text);
-        Asked.due("fault of '" + text + "'", fault, x.fault(0));
-        Asked.due("place of '" + text + "'", place, x.fault(1));
-        Asked.due("nothing of '" + text + "'", fault != 0, answer == DeepBathing.NOTHING);
+        Asked.question(text, fault, place);
     }
 
-    /** A fault behind a text that is good. */
     private static void behind(String good, String bad, int fault, int on) {
-        beach(good, 0, -1);
-        beach(good + bad, fault, good.length() + on);
+        Asked.behind(good, bad, fault, on);
     }
 
     private static String times(int n, String text) {
-        StringBuilder s = new StringBuilder();
-        for (int k = 0; k < n; k++) {
-            s.append(text);
-        }
-        return s.toString();
+        return Asked.times(n, text);
     }
 
     private static void goodTexts() {

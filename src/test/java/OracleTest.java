@@ -242,7 +242,7 @@ public final class OracleTest {
         }
     }
     private void runTexts() {
-        for (int k = 0; k < 20; k++) {
+        for (int k = 0; k < 8; k++) {
             tellBeach();
             for (int n = pick(4); n > 0; n--) ask();
         }
@@ -253,7 +253,7 @@ public final class OracleTest {
         long first = args.length > 1 ? Long.parseLong(args[1]) : 0;
         try {
             for (long s = first; s < first + 400L * times; s++) new OracleTest(s).runCalls(s % 8 == 0);
-            for (long s = first; s < first + 1500L * times; s++) new OracleTest(s).runTexts();
+            for (long s = first; s < first + 3750L * times; s++) new OracleTest(s).runTexts();
         } catch (IllegalStateException e) {
             if (wrong == 0) throw e;
         }

@@ -367,7 +367,7 @@ public final class PromiseTest {
         due("15 none", NONE, x.later(-1, 0, 1));
         due("15 none", NONE, x.later(0, 3, 1));
         due("15 none", NONE, x.later(0, -1, 1));
-        Asked.put(x, image(new int[] {3, 230, 5, 0, 0, 0, 0, 0, 0, 0, 1, 0, 0, 1}));
+        Asked.put(x, Asked.image(3, 230, 5, 0, 0, 0, 0, 0, 0, 0, 1, 0, 0, 1));
         due("15 on", true, x.on());
         due("15 to hour 999", 36, x.later(0, 1, 1));
         due("15 beyond", NONE, x.later(0, 0, 2));
@@ -399,16 +399,6 @@ public final class PromiseTest {
         x.send(0, 0, 1);
         x.duck(0, 0);
         due("15 above is 99", 99, x.later(0, 0, 3));
-    }
-
-    private static int[] image(int[] ahead) {
-        int check = 239;
-        for (int octet : ahead) {
-            check = (3 * check + octet) % 251;
-        }
-        int[] image = java.util.Arrays.copyOf(ahead, ahead.length + 1);
-        image[ahead.length] = check;
-        return image;
     }
 
     private static void promise16() {
@@ -461,12 +451,12 @@ public final class PromiseTest {
         x = Asked.told(ONE + "fades 0;");
         x.duck(0, 0);
         due("17 no hour", 0, x.lasts(0, 0));
-        Asked.put(x, image(new int[] {3, 227, 50, 0, 0}));
+        Asked.put(x, Asked.image(3, 227, 50, 0, 0));
         x.on();
         due("17 known at hour 995", 50, x.knows(0, 0));
         Asked.put(x, "");
         x = Asked.told(ONE);
-        Asked.put(x, image(new int[] {3, 227, 50, 0, 0}));
+        Asked.put(x, Asked.image(3, 227, 50, 0, 0));
         x.on();
         due("17 not beyond hour 999", 4, x.lasts(0, 0));
         x = Asked.told("idea a depth 0;bather b lung 0 wits 0;fades strength-hour;");
@@ -501,7 +491,7 @@ public final class PromiseTest {
         due("18 five hours", NONE, x.course(0, 4, NONE));
         x.hours(3);
         course(x, 0, 3, 0, 1, 2, 3);
-        Asked.put(x, image(new int[] {3, 228, 0, 0, 0, 0, 0}));
+        Asked.put(x, Asked.image(3, 228, 0, 0, 0, 0, 0));
         x.on();
         course(x, 0, 2, 0, 1, 2);
         due("18 not beyond hour 999", NONE, x.course(0, 3, NONE));
@@ -556,7 +546,7 @@ public final class PromiseTest {
         change(x, 1, 0, 1, 38);
         x = Asked.told("idea a depth 0;bather t lung 0 wits 0;plan t in a;");
         change(x, 4, NONE, NONE, 20);
-        Asked.put(x, image(new int[] {3, 226, 50, 0, 0}));
+        Asked.put(x, Asked.image(3, 226, 50, 0, 0));
         x.on();
         due("19 to hour 999", 20, x.change(5, 2));
         due("19 beyond", NONE, x.change(6, 2));
@@ -616,7 +606,7 @@ public final class PromiseTest {
         due("21 always squalls", 300, x.odds(0, 0));
         x = Asked.told("idea a depth 7;bather b lung 0 wits 0;plan b in a;tide 7;");
         due("21 never", 1000, x.odds(0, 0));
-        Asked.put(x, image(new int[] {3, 230, 0, 0, 0}));
+        Asked.put(x, Asked.image(3, 230, 0, 0, 0));
         x.on();
         due("21 at 998", 1000, x.odds(0, 0));
         x.hours(1);
@@ -674,7 +664,7 @@ public final class PromiseTest {
         x.hours(1);
         found(x, 0, 0, 0, 11);
         due("23 now", 1023, x.wits(0));
-        Asked.put(x, image(new int[] {3, 229, 11, 0, 0}));
+        Asked.put(x, Asked.image(3, 229, 11, 0, 0));
         x.on();
         due("23 found stays", 1, x.has(9));
         due("23 now it is", 1023, x.wits(0));
@@ -720,7 +710,7 @@ public final class PromiseTest {
         x = Asked.told("bather t lung 0 wits 7;");
         telling(x, 0, NONE, NONE, NONE);
         x = Asked.told(ONE + "bears hour=998;fades strength;");
-        Asked.put(x, image(new int[] {3, 229, 0, 0, 0}));
+        Asked.put(x, Asked.image(3, 229, 0, 0, 0));
         x.on();
         telling(x, 0, 2, 0, 1);
         x.hours(1);
@@ -1004,7 +994,7 @@ public final class PromiseTest {
         x.hours(100);
         // hour 300: tom a 36, b 36, annie a 17 (hours 297, 299, 298)
         due("33 bytes", 15, x.image());
-        int[] want = image(new int[] {1, 44, 36, 36, 0, 17, 0, 0, 0, 0, 1, 0, 0, 1});
+        int[] want = Asked.image(1, 44, 36, 36, 0, 17, 0, 0, 0, 0, 1, 0, 0, 1);
         for (int k = 0; k < want.length; k++) {
             due("33 octet " + k, want[k], x.octet(k));
         }
@@ -1024,7 +1014,7 @@ public final class PromiseTest {
         x.image();
         due("34 anew", 1, x.octet(1));
         due("34 strength", 20, x.octet(2));
-        due("34 check", image(new int[] {0, 1, 20, 0, 0})[5], x.octet(5));
+        due("34 check", Asked.image(0, 1, 20, 0, 0)[5], x.octet(5));
         x = Asked.told("idea a depth 0;bather b lung 0 wits 0;keeps 99;");
         x.duck(0, 0);
         x.image();
@@ -1037,7 +1027,7 @@ public final class PromiseTest {
         Asked.put(x, 0, 0, 0, 36);
         x.discover();
         int[] good = {3, 231, 99, 0, 1, 0, 50, 0, 1, 2, 0, 0, 1, 1};
-        Asked.put(x, image(good));
+        Asked.put(x, Asked.image(good));
         due("35 on", true, x.on());
         due("35 hour", 999, x.has(4));
         due("35 known", 99, x.knows(0, 0));
@@ -1054,16 +1044,16 @@ public final class PromiseTest {
         for (int[] spot : spoilt) {
             int[] bad = good.clone();
             bad[spot[0]] = spot[1];
-            Asked.put(x, image(bad));
+            Asked.put(x, Asked.image(bad));
             due("35 none, at " + spot[0], false, x.on());
         }
-        int[] check = image(good);
+        int[] check = Asked.image(good);
         check[14] ^= 1;
         Asked.put(x, check);
         due("35 check", false, x.on());
-        Asked.put(x, java.util.Arrays.copyOf(image(good), 16));
+        Asked.put(x, java.util.Arrays.copyOf(Asked.image(good), 16));
         due("35 too long", false, x.on());
-        Asked.put(x, java.util.Arrays.copyOf(image(good), 14));
+        Asked.put(x, java.util.Arrays.copyOf(Asked.image(good), 14));
         due("35 too short", false, x.on());
         due("35 empty", false, x.on());
         due("35 refused", 12, x.status(5));
