@@ -644,10 +644,6 @@ public final class DeepBathing {
         private final int[] pile = new int[PILE];
         private int size;
 
-        Orders() {
-            clear();
-        }
-
         void clear() {
             size = 0;
             for (int kind = 0; kind < FORMULAS; kind++) {
@@ -1439,8 +1435,6 @@ public final class DeepBathing {
 
         void open(int count) {
             length = Math.min(count, bytes.length);
-            here = END;
-            from = 0;
             to = 0;
             fault = 0;
             place = NONE;

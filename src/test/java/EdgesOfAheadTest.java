@@ -383,6 +383,8 @@ public final class EdgesOfAheadTest {
         // both are known since the same HOUR, and fade by what only there can be told
         telling(knowing("idea a depth 0;idea c depth 0;bather b lung 0 wits 0;fades strength-wits;", 50, 50), 1, 0, 1);
         telling(knowing("idea a depth 0;idea c depth 1;bather b lung 0 wits 0;fades strength-wits*depth;", 50, 50), 1, 1, 1);
+        telling(knowing(ONE + "fades strength-wits/9;", 50), 1, 0, 9);
+        telling(knowing(ONE + "fades strength-(wits+8)/9;", 50), 1, 0, 9);
     }
 
     public static void main(String[] args) {

@@ -205,6 +205,116 @@ public final class EdgesOfPromisesTest {
         due("all are there still", true, z.end(20));
     }
 
+    /** Bytes that end() has cut off are not there, whatever they are. */
+    private static void cutOff() {
+        sentence("The tape has its first n bytes alone");
+        for (char behind : new char[] {'a', 'n', '1', ' ', '\n', ';', '(', '[', '+', 0, 255}) {
+            String cut = Asked.times(20, "" + behind);
+            askCut("first all", cut, 0, 0);
+            askCut("total 12", cut, 12, 0);
+            askCut("total hour", cut, 0, 0);
+            askCut("total 12 ", cut, 12, 0);
+            askCut("total 12+", cut, DeepBathing.NOTHING, 9);
+            askCut("total hou", cut, DeepBathing.NOTHING, 6);
+            askCut("total 12 \n", cut, 12, 0);
+            beachCut("squall 1;", cut, 1, NONE);
+            beachCut("squall 1", cut, NONE, 8);
+            beachCut("idea a depth 9", cut, NONE, 14);
+            beachCut("idea a depth ", cut, NONE, 13);
+            beachCut("idea abc", cut, NONE, 8);
+            beachCut("idea abcdef", cut, NONE, 11);
+            beachCut("idea", cut, NONE, 4);
+            beachCut("ide", cut, NONE, 0);
+            beachCut("", cut, 0, NONE);
+        }
+        DeepBathing x = full();
+        Asked.put(x, 0, 0, 0, 99, 31, 31, 31, 31);
+        x.end(4);
+        due("one row", 1, x.discover());
+    }
+
+    private static void askCut(String text, String behind, long want, int place) {
+        DeepBathing x = Asked.told("bather b lung 0 wits 0;");
+        Asked.put(x, text + behind);
+        x.end(text.length());
+        due(text + "|" + behind, want, x.ask());
+        due("place in " + text + "|" + behind, want == DeepBathing.NOTHING ? place : NONE, x.fault(1));
+    }
+
+    private static void beachCut(String text, String behind, int want, int place) {
+        DeepBathing x = new DeepBathing();
+        Asked.put(x, text + behind);
+        x.end(text.length());
+        due(text + "|" + behind, want, x.beach());
+        due("place in " + text + "|" + behind, place, x.fault(1));
+    }
+
+    /** Texts as long as the tape. */
+    private static void fullTape() {
+        sentence("if there would be more than 1600");
+        for (int cut = 0; cut <= 1; cut++) {
+            int length = 1600 - cut;
+            String ones = "total 1" + (cut == 0 ? "2" : "") + Asked.times(796, "+1");
+            due("a question of " + length, length, ones.length());
+            DeepBathing x = Asked.told("bather b lung 0 wits 0;");
+            due("ends in a number", cut == 0 ? 808 : 797, Asked.ask(x, ones));
+            x.hours(5);
+            due("ends in a word", 800 - cut, Asked.ask(x, "total " + Asked.times(cut, " ") + Asked.times(795 - cut, "1+") + "hour"));
+            due("ends in blanks", 7, Asked.ask(x, "total 7" + Asked.times(length - 7, " ")));
+            Asked.beach("squall 7;" + Asked.times(length - 9, "\n"), 0, NONE);
+            Asked.beach("squall 7" + Asked.times(length - 8, "\n"), 1, length);
+            Asked.beach(Asked.times(length - 8, " ") + "squall 7", 1, length);
+            Asked.beach(Asked.times(length - 6, " ") + "idea i", 1, length);
+            Asked.beach(Asked.times(length - 11, " ") + "idea abcdef", 1, length);
+            Asked.beach(Asked.times(length - 4, " ") + "idea", 1, length);
+            Asked.beach(Asked.times(length - 6, " ") + "tide 1", 1, length);
+            Asked.beach(Asked.times(length - 7, " ") + "tide 1;", 0, NONE);
+            Asked.beach(Asked.times(length - 1, " ") + "?", 1, length - 1);
+            Asked.question("total ((((((" + Asked.times(length - 12, " "), 1, length);
+            Asked.question(Asked.times(length, " "), 1, length);
+        }
+    }
+
+    /** Of what was told before nothing is left, of what had a FAULT neither. */
+    private static void toldAgain() {
+        sentence("Without one all is as at first");
+        String much = Asked.chain(8) + Asked.bathers(6) + Asked.times(16, "plan ba in ia;") + "tide 3;keeps 3;fades 3;bears 1=2;squall 100;";
+        String little = "idea x depth 0;idea y depth 1;bather z lung 0 wits 0;";
+        for (int round = 0; round < 2; round++) {
+            DeepBathing x = new DeepBathing();
+            for (int k = 0; k < 2; k++) {
+                Asked.put(x, much + (round == 0 ? "" : "?"));
+                due("much", round == 0, x.beach() != NONE);
+                due("tide", round == 0 ? 3 : 9, x.has(5));
+            }
+            for (int k = 0; k < 3; k++) {
+                Asked.put(x, little);
+                due("little", 3, x.beach());
+                int[] has = {2, 0, 1, 0, 0, 9, 0, 0, 0, 0, 0};
+                for (int what = 0; what < has.length; what++) {
+                    due("has " + what, has[what], x.has(what));
+                }
+                due("needs", 0, x.idea(1, 1));
+                due("roots", 0, x.idea(1, 2));
+                due("ready", 3, x.bather(0, 3));
+                due("keeps", 19, x.keeps(0, 1));
+                due("squalls", 0, x.chance(100));
+                x.duck(0, 1);
+                due("fades", 18, x.later(0, 1, 1));
+            }
+        }
+        DeepBathing x = new DeepBathing();
+        for (int k = 0; k < 5; k++) {
+            Asked.put(x, "tide " + (794 + k) + Asked.times(795, "-1") + ";");
+            x.beach();
+            due("a long one again", k - 1 < 0 ? 0 : k - 1, x.has(5));
+        }
+        DeepBathing y = Asked.told("bather b lung 0 wits 0;");
+        for (int k = 0; k < 5; k++) {
+            due("a long question again", k - 1, Asked.ask(y, "total " + (794 + k) + Asked.times(795, "-1")));
+        }
+    }
+
     private static void beaches() {
         sentence("The tape (it goes) is THE BEACH: how many STATEMENTS (0 without); NONE, refused (1), with a FAULT (all stays).");
         DeepBathing x = full();
@@ -793,7 +903,10 @@ public final class EdgesOfPromisesTest {
         newObject();
         calls();
         tape();
+        cutOff();
+        fullTape();
         beaches();
+        toldAgain();
         told();
         ahead();
         howQuick();
