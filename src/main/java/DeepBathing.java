@@ -1,6 +1,8 @@
 /** A beach with its bathers, its plan and its hours, as ../shared/DOC.md tells of it. */
 public final class DeepBathing {
+    /** There is none; it is refused. */
     public static final int NONE = -1;
+    /** Told where a number below 0 may be one. */
     public static final long NOTHING = -1000000000000000L;
 
     private static final int MOST_BYTES = 1600;
@@ -254,6 +256,8 @@ public final class DeepBathing {
         return now.kept[ROW_BYTES * k + what];
     }
 
+    // ---- ahead
+
     public int tide(int n) {
         return comes(n, 0, MOST_AHEAD) ? life.tideAt(now.hour + n) : NONE;
     }
@@ -275,6 +279,8 @@ public final class DeepBathing {
         }
         return foresight.lastKnown(bather, idea);
     }
+
+    // ---- courses, changes, matches
 
     public int course(int bather, int idea, int k) {
         if (!hasBoth(bather, idea) || k < NONE || k >= MOST_COURSE) {
@@ -313,6 +319,8 @@ public final class DeepBathing {
         }
         return foresight.countOdds(bather, idea);
     }
+
+    // ---- how quick
 
     public int discover() {
         int bytes = takeTape();
@@ -357,6 +365,8 @@ public final class DeepBathing {
             default: return foresight.tellingLeft;
         }
     }
+
+    // ---- acts
 
     public int duck(int bather, int idea) {
         if (!hasBoth(bather, idea)) {
@@ -446,6 +456,8 @@ public final class DeepBathing {
         return true;
     }
 
+    // ---- questions
+
     public long ask() {
         text.open(takeTape());
         int word = reader.readQuestion(question);
@@ -471,6 +483,8 @@ public final class DeepBathing {
         }
         return got;
     }
+
+    // ---- images, refusals
 
     public int image() {
         writtenBytes = 0;

@@ -109,7 +109,7 @@ public final class EdgesOfAheadTest {
     }
 
     private static void courses() {
-        sentence("a row of HOURS (0 .. 4 of them, not beyond HOUR 999)");
+        sentence("A COURSE of a BATHER for an IDEA is a row of HOURS (0 .. 4 of them, not beyond HOUR 999)");
         String chain = Asked.chain(5) + "bather b lung 0 wits 0;";
         DeepBathing x = Asked.told(chain);
         course(x, 0, 0);
@@ -155,7 +155,15 @@ public final class EdgesOfAheadTest {
         course(Asked.told(Asked.chain(2) + "bather b lung 0 wits 0;fades strength-19;"), 1, 0, 1);
         noCourse(Asked.told(Asked.ideas(3, 0) + "need ia for ic;need ib for ic;bather b lung 0 wits 0;fades strength-20;"), 2);
         course(Asked.told(Asked.ideas(3, 0) + "need ia for ic;need ib for ic;bather b lung 0 wits 0;fades strength-19;"), 2, 0, 1, 2);
-        sentence("of like ones the first row (HOUR by HOUR nobody, then IDEAS by numbers)");
+        sentence("the fewest HOURS; of like ones the first row (HOUR by HOUR nobody, then IDEAS by numbers)");
+        course(knowing(Asked.ideas(2, 0) + "bather b lung 0 wits 0;", 0, 9), 1);
+        course(knowing(Asked.ideas(2, 0) + "bather b lung 0 wits 0;", 0, 9), 0, 0);
+        // by nobody and a, or by a and nobody, he would know it as well: by one HOUR more
+        course(Asked.told(ONE + "bears hour<4;fades strength;"), 0, 0);
+        course(Asked.told(Asked.chain(2) + "bather b lung 0 wits 0;fades strength;"), 1, 0, 1);
+        course(knowing(Asked.chain(3) + "bather b lung 0 wits 0;fades strength;", 0, 9, 0), 2, 2);
+        // of a itself by HOUR 1 alone: what is first in order is no help if it is longer
+        course(Asked.told("idea a depth 0;idea c depth 0;bather b lung 0 wits 0;bears depth=0 and hour>0 or known=0;fades strength;"), 1, 1);
         String late = "bather b lung 0 wits 0;bears depth=0 and hour=1 or depth>0;";
         course(Asked.told("idea a depth 1;idea c depth 0;" + late), 1, NONE, 1);
         String two = "idea a depth 1;idea c depth 1;idea d depth 0;bather b lung 0 wits 0;";
@@ -199,7 +207,7 @@ public final class EdgesOfAheadTest {
             due("beyond at " + hour, NONE, x.change(most + 1, 2));
             due("beyond at " + hour, NONE, x.change(most + 1, 0));
         }
-        sentence("let all strengths of all together be most behind n HOURS; of like ones none, then the first (by the less number, then by the other one)");
+        sentence("which, taken for one another now, let all strengths of all together be most behind n HOURS; of like ones none, then the first (by the less number, then by the other one)");
         change(Asked.told(deep + "plan b in a;plan b in c;plan b in c;"), 1, NONE, NONE, 20);
         change(Asked.told(deep + "plan b in c;plan b in c;plan b in a;plan b in a;"), 1, 0, 2, 20);
         change(Asked.told(deep + "plan b in c;plan b in c;plan b in a;plan b in a;"), 2, 0, 2, 20);

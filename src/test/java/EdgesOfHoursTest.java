@@ -144,7 +144,7 @@ public final class EdgesOfHoursTest {
     }
 
     private static void ducked() {
-        sentence("he knows it by the SUM of keeps by what is so ahead of it, 1 .. 99 (below is 1, above 99), even if he knew it better");
+        sentence("To DUCK him in it: he knows it by the SUM of keeps by what is so ahead of it, 1 .. 99 (below is 1, above 99), even if he knew it better");
         String[] sums = {"0-9999*9999", "0-1", "0", "1", "2", "98", "99", "100", "9999*9999"};
         int[] want = {1, 1, 1, 1, 2, 98, 99, 99, 99};
         for (int k = 0; k < sums.length; k++) {
@@ -165,7 +165,7 @@ public final class EdgesOfHoursTest {
     }
 
     private static void rowOfTheHour() {
-        sentence("FIRST the row of the PLAN of number HOUR modulo its length (none without a PLAN)");
+        sentence("An HOUR: FIRST the row of the PLAN of number HOUR modulo its length (none without a PLAN)");
         for (int n = 1; n <= 16; n++) {
             StringBuilder s = new StringBuilder(Asked.ideas(8, 0) + Asked.bathers(6));
             for (int k = 0; k < n; k++) {
@@ -186,6 +186,43 @@ public final class EdgesOfHoursTest {
         due("none", 0, x.has(8));
         due("none by the seed", 0, x.chance(1));
         due("the hours pass", 101, x.has(4));
+    }
+
+    private static void duckedIfReady() {
+        sentence("if its BATHER is READY for its IDEA, he is DUCKED in it.");
+        for (int depth = 3; depth <= 5; depth++) {
+            DeepBathing x = Asked.told("idea a depth " + depth + ";bather b lung 0 wits 0;plan b in a;tide 4;keeps 50;");
+            ducks("depth " + depth, x, depth <= 4);
+        }
+        for (int strength = 0; strength <= 2; strength++) {
+            DeepBathing x = Asked.told("idea n depth 0;idea a depth 0;need n for a;bather b lung 0 wits 0;plan b in a;keeps 50;");
+            Asked.put(x, Asked.image(0, 0, strength, 0, 0, 1));
+            x.on();
+            due("needs, known by " + strength, strength > 0 ? 1 : 0, x.hours(1));
+            due("knows, by " + strength, strength > 0 ? 50 : 0, x.knows(0, 1));
+        }
+        ducks("bears", Asked.told(PLANNED + "keeps 50;bears wits<1;"), true);
+        ducks("bears not", Asked.told(PLANNED + "keeps 50;bears wits>0;"), false);
+        // the row's own BATHER is asked, whatever the other one could
+        String two = "idea a depth 0;bather b lung 1 wits 0;bather e lung 2 wits 0;keeps 50;bears lung=2;";
+        ducks("the first is not ready", Asked.told(two + "plan b in a;"), false);
+        DeepBathing x = Asked.told(two + "plan e in a;");
+        due("the other is ready", 1, x.hours(1));
+        due("the other is ducked", 50, x.knows(1, 0));
+        due("the first is not", 0, x.knows(0, 0));
+        x = Asked.told("idea a depth 0;idea c depth 9;" + "bather b lung 0 wits 0;tide 8;plan b in c;plan b in a;plan b in c;");
+        due("two of six are not", 2, x.hours(6));
+        due("in hour 1", 1, x.kept(0, 0));
+        due("in hour 4", 4, x.kept(1, 0));
+    }
+
+    private static void ducks(String what, DeepBathing x, boolean so) {
+        due(what + ": later", so ? 50 : 0, x.later(0, 0, 1));
+        due(what + ": hours", so ? 1 : 0, x.hours(1));
+        due(what + ": knows", so ? 50 : 0, x.knows(0, 0));
+        due(what + ": kept", so ? 1 : 0, x.has(8));
+        x.chance(1);
+        due(what + ": kept by the seed", so ? 2 : 0, x.has(8));
     }
 
     private static void fading() {
@@ -433,6 +470,7 @@ public final class EdgesOfHoursTest {
         ready();
         ducked();
         rowOfTheHour();
+        duckedIfReady();
         fading();
         atOnce();
         lastHour();

@@ -147,12 +147,30 @@ public final class EdgesOfPromisesTest {
     }
 
     private static void calls() {
-        sentence("An object is used for at most 512 calls after it has been made");
+        sentence("An object is used for at most 512 calls after it has been made; what later calls answer is free.");
         DeepBathing x = new DeepBathing();
         for (int k = 1; k <= 511; k++) {
             due("call " + k, k <= 80 ? 20 * k : NONE, x.feed(0, 0, 0, 0, 0));
         }
         due("call 512", 431, x.status(0));
+        for (int k = 0; k < 2000; k++) {
+            due("later calls answer, whatever it is", true, x.has(k % 12) < 100000 && x.hours(1) <= 1 | x.beach() < 61 | x.undo());
+        }
+    }
+
+    private static void constants() {
+        sentence("`NONE = -1`: There is none; it is refused.");
+        due("NONE", -1, DeepBathing.NONE);
+        DeepBathing x = new DeepBathing();
+        due("there is none", DeepBathing.NONE, x.knows(0, 0));
+        due("it is refused", DeepBathing.NONE, x.duck(0, 0));
+        sentence("`NOTHING = -1000000000000000L`: Told where a number below 0 may be one.");
+        due("NOTHING", -1000000000000000L, DeepBathing.NOTHING);
+        x = full();
+        due("the least answer of any", -6000000, Asked.ask(x, "total 0-9999*9999"));
+        due("-1 is one", -1, Asked.ask(x, "least 0-1"));
+        due("and no FAULT", 0, x.fault(0));
+        due("a FAULT", DeepBathing.NOTHING, Asked.ask(x, "least -1"));
     }
 
     private static void tape() {
@@ -394,7 +412,7 @@ public final class EdgesOfPromisesTest {
 
     private static void told() {
         DeepBathing x = full();
-        sentence("How many there are: 0 IDEAS, 1 NEEDS, 2 BATHERS, 3 rows of the PLAN, 4 HOUR, 5 the TIDE now");
+        sentence("How many there are: 0 IDEAS, 1 NEEDS, 2 BATHERS, 3 rows of the PLAN, 4 HOUR, 5 the TIDE now, 6 how many IDEAS are known (by each BATHER, together), 7 all strengths together, 8 what is told as KEPT, 9 rows FOUND, 10 ACTS that can be undone. NONE for others.");
         range("has", 0, 10, x::has);
         for (int k = 0; k < 25; k++) {
             x.hours(1);
@@ -758,7 +776,7 @@ public final class EdgesOfPromisesTest {
     }
 
     private static void ons() {
-        sentence("true, all is as it tells, nothing is KEPT or can be undone; false, refused (5), when it is none (HOUR 999, strengths 99 at most; BATHERS, IDEAS that there are), all staying.");
+        sentence("The tape (it goes) is AN IMAGE of this BEACH: true, all is as it tells, nothing is KEPT or can be undone; false, refused (5), when it is none (HOUR 999, strengths 99 at most; BATHERS, IDEAS that there are), all staying.");
         DeepBathing x = full();
         int[] ahead = new int[82];
         Arrays.fill(ahead, 2, 50, 99);
@@ -879,7 +897,7 @@ public final class EdgesOfPromisesTest {
 
     /** Whatever is asked, in whatever state, is answered. */
     private static void anyArguments() {
-        sentence("Nothing is promised beyond the answers and state changes described above");
+        sentence("Nothing is promised beyond the answers and state changes described above, and nothing about an object after its 512th call.");
         int[] any = {Integer.MIN_VALUE, -2, -1, 0, 1, 5, 6, 7, 8, 15, 16, 31, 60, 61, 100, 999, 1000, Integer.MAX_VALUE};
         for (int a : any) {
             for (int b : any) {
@@ -902,6 +920,7 @@ public final class EdgesOfPromisesTest {
     public static void main(String[] args) {
         newObject();
         calls();
+        constants();
         tape();
         cutOff();
         fullTape();

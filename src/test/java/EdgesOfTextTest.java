@@ -50,7 +50,7 @@ public final class EdgesOfTextTest {
     // ---- how many there can be
 
     private static void statements() {
-        sentence("{ STATEMENT ; } (60 at most)");
+        sentence("A BEACH is a text: { STATEMENT ; } (60 at most)");
         for (int n : new int[] {0, 1, 59, 60}) {
             DeepBathing x = new DeepBathing();
             Asked.put(x, times(n, "squall 1;") + "\n ");
@@ -363,7 +363,8 @@ public final class EdgesOfTextTest {
 
     private static void ownWords() {
         sentence("no OWN WORD");
-        sentence("OWN WORDS: " + String.join(", ", OWN_WORDS) + ".");
+        sentence("OWN WORDS: idea, depth, need, for, bather, lung, wits, plan, in, tide, keeps, fades, bears, squall, hour, known, strength, rooted, number, knows, ready, or, and, not, all, min, max.");
+        due("how many", 27, OWN_WORDS.size());
         for (String word : OWN_WORDS) {
             beach("idea " + word + " depth 1;", 1, 5);
             beach("idea " + word, 1, 5);
