@@ -252,11 +252,33 @@ public final class EdgesOfAheadTest {
         match(Asked.told(Asked.ideas(6, 0) + Asked.bathers(6)), 120, 0, 1, 2, 3, 4, 5);
         match(Asked.told(Asked.ideas(5, 0) + Asked.bathers(6)), 100, NONE, 0, 1, 2, 3, 4);
         match(Asked.told(Asked.ideas(8, 0) + Asked.bathers(6)), 120, 0, 1, 2, 3, 4, 5);
+        matchOfAnother();
         sentence("of like ones the first (BATHER by BATHER none, then IDEAS by numbers)");
         match(Asked.told("idea a depth 0;idea c depth 0;bather s lung 0 wits 1;bather t lung 0 wits 1;bather u lung 0 wits 2;"), 55, NONE, 0, 1);
         match(Asked.told("idea a depth 0;idea c depth 0;bather s lung 0 wits 2;bather t lung 0 wits 1;bather u lung 0 wits 1;"), 55, 0, NONE, 1);
         match(Asked.told("idea a depth 1;idea c depth 0;bather s lung 0 wits 1;"), 25, 1);
         match(Asked.told("idea a depth 0;idea c depth 1;bather s lung 0 wits 1;"), 25, 0);
+    }
+
+    /** Of a MATCH that was asked for before nothing is left. */
+    private static void matchOfAnother() {
+        DeepBathing x = Asked.told(Asked.ideas(8, 0) + Asked.bathers(6) + "keeps 99;");
+        match(x, 6 * 99, 0, 1, 2, 3, 4, 5);
+        for (int n = 5; n >= 0; n--) {
+            Asked.put(x, Asked.ideas(8, 0) + Asked.bathers(n) + "keeps 10;");
+            x.beach();
+            due("of " + n, 10 * n, x.match(NONE));
+            for (int b = 0; b <= 6; b++) {
+                due("of " + n + ", bather " + b, b < n ? b : NONE, x.match(b));
+            }
+        }
+        Asked.put(x, Asked.ideas(8, 0) + Asked.bathers(6) + "bears hour=1;");
+        x.beach();
+        match(x, 0, NONE, NONE, NONE, NONE, NONE, NONE);
+        x.hours(1);
+        match(x, 120, 0, 1, 2, 3, 4, 5);
+        x.undo();
+        match(x, 0, NONE, NONE, NONE, NONE, NONE, NONE);
     }
 
     private static void odds() {

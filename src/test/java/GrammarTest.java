@@ -256,6 +256,14 @@ public final class GrammarTest {
             Asked.question(word + " all", 0, NONE);
             Asked.question(word + " number", 1, word.length() + 7);
         }
+        String[] bad = {"()", "(1", "1)", "(1,2)", "(1=1)", "(all)", "min", "min 1", "max x(1,2)", "min(1)", "min(1,)", "max(,1)", "max(1,2,3)",
+            "max(1 2)", "max[1,2]", "knows", "ready", "knows -1", "knows all", "knows min", "ready x", "knowsx 1", "1+", "1*", "12345"};
+        int[] places = {1, 2, 1, 2, 2, 1, 3, 4, 4, 5, 6, 4, 7, 6, 3, 5, 5, 6, 6, 9, 6, 0, 2, 2, 4};
+        for (int k = 0; k < bad.length; k++) {
+            Asked.question("total " + bad[k], 1, 6 + places[k]);
+            Asked.question("most number*" + bad[k], 1, 12 + places[k]);
+            Asked.question("first 1<" + bad[k], 1, 8 + places[k]);
+        }
         for (String word : new String[] {"total", "most", "least"}) {
             Asked.question(word + " number", 0, NONE);
             Asked.question(word + " all", 1, word.length() + 1);
